@@ -1063,11 +1063,11 @@ public final class OwnHurt {
                     int whenFalse = markOf(state - 2 * POWERS[i]);
                     int whenTrue = markOf(state - POWERS[i]);
                     int deeper = Math.max(whenFalse, whenTrue);
-                    if (deeper <= SETTLED && (whenFalse | whenTrue) <= SETTLED) {
+                    // Two different values together are the mark of depth 1, and none is less deep.
+                    if (deeper <= SETTLED) {
                         return whenFalse | whenTrue;
                     }
-                    int mark = Math.max(deeper, SETTLED) + 1;
-                    least = least == 0 ? mark : Math.min(least, mark);
+                    least = least == 0 ? deeper + 1 : Math.min(least, deeper + 1);
                 }
             }
             return least;

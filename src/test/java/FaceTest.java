@@ -103,6 +103,8 @@ public final class FaceTest {
             Matcher found = banned.matcher(line.replaceAll("//.*|^ *\\*.*|/\\*\\*.*", ""));
             must(!found.find(), "line " + (i + 1) + " keeps to the language: " + line);
             must(line.length() <= 120, "line " + (i + 1) + " is short");
+            boolean makes = line.matches(" *[^*/]*\\bnew \\w.*");
+            must(!makes || line.matches(" {4,8}private final .*"), "line " + (i + 1) + " makes it once, not by each call");
             must(line.chars().allMatch(c -> c < 128), "line " + (i + 1) + " is plain");
             boolean opens = line.matches(" +.*\\) \\{") && !line.matches(" +(if|for|while|switch|}).*");
             start = opens ? i : start;

@@ -1,23 +1,6 @@
 /** For each promise of the document: ordinary inputs, the edges it names, and wrong inputs. */
-public final class PromisesTest {
-    private static final String ALL_SAY = "r1(1=1)";
-    private static int checks = 0;
-    private static int wrong = 0;
-    private static int promise = 0;
-
+public final class PromisesTest extends TestCourt {
     private PromisesTest() { }
-
-    private static void due(String call, int got, int want) {
-        checks++;
-        if (got != want) {
-            wrong++;
-            System.out.println("promise " + promise + ": " + call + " answered " + got + ", due is " + want);
-        }
-    }
-
-    private static void due(String call, boolean got, boolean want) {
-        due(call, got ? 1 : 0, want ? 1 : 0);
-    }
 
     public static void main(String[] args) {
         newObject();
@@ -54,45 +37,11 @@ public final class PromisesTest {
         check();
         count();
         extremes();
-        System.out.println(checks + " checks, " + wrong + " wrong");
-        System.exit(wrong == 0 ? 0 : 1);
-    }
-
-    private static void feedBytes(OwnHurt x, int... bytes) {
-        for (int i = 0; i < bytes.length; i += 20) {
-            int[] five = new int[5];
-            for (int j = 0; j < 20; j++) {
-                five[j / 4] = five[j / 4] << 8 | (i + j < bytes.length ? bytes[i + j] : 0);
-            }
-            x.feed(five[0], five[1], five[2], five[3], five[4]);
-        }
-    }
-
-    private static int tell(OwnHurt x, String text) {
-        feedBytes(x, text.chars().toArray());
-        return x.law(text.length());
-    }
-
-    private static void faulty(String text, int fault) {
-        due("law of " + text, tell(new OwnHurt(), text), fault);
-    }
-
-    /** Facts with one person that knows them all and is hurt by each as much as it says here. */
-    private static OwnHurt court(int facts, int silence, int harm, String text) {
-        OwnHurt x = new OwnHurt();
-        x.facts(facts);
-        x.person(silence);
-        x.knows(0, 1023);
-        for (int f = 0; f < facts; f++) {
-            x.harm(0, f, 1, harm);
-            x.harm(0, f, 0, harm);
-        }
-        tell(x, text);
-        return x;
+        end();
     }
 
     private static void newObject() {
-        promise = 1;
+        promise(1);
         OwnHurt x = new OwnHurt();
         int[] at = {1, 0, 0, 0, 0, 1, 0, 0};
         for (int i = 0; i < at.length; i++) {
@@ -104,7 +53,7 @@ public final class PromisesTest {
     }
 
     private static void facts() {
-        promise = 2;
+        promise(2);
         OwnHurt x = court(3, 2, 1, "n(a=1&b=1);" + ALL_SAY);
         x.truth(7);
         due("facts(0)", x.facts(0), -1);
@@ -122,7 +71,7 @@ public final class PromisesTest {
     }
 
     private static void truth() {
-        promise = 3;
+        promise(3);
         OwnHurt x = new OwnHurt();
         due("truth(1)", x.truth(1), true);
         due("truth(2)", x.truth(2), false);
@@ -136,7 +85,7 @@ public final class PromisesTest {
     }
 
     private static void person() {
-        promise = 4;
+        promise(4);
         OwnHurt x = new OwnHurt();
         due("person(-1)", x.person(-1), -1);
         due("person(100)", x.person(100), -1);
@@ -149,7 +98,7 @@ public final class PromisesTest {
     }
 
     private static void knows() {
-        promise = 5;
+        promise(5);
         OwnHurt x = new OwnHurt();
         due("nobody", x.knows(0, 1), false);
         x.person(0);
@@ -165,7 +114,7 @@ public final class PromisesTest {
     }
 
     private static void harm() {
-        promise = 6;
+        promise(6);
         OwnHurt x = new OwnHurt();
         due("nobody", x.harm(0, 0, 0, 0), false);
         x.person(50);
@@ -190,7 +139,7 @@ public final class PromisesTest {
     }
 
     private static void feed() {
-        promise = 7;
+        promise(7);
         OwnHurt x = new OwnHurt();
         for (int i = 1; i <= 11; i++) {
             due("feed " + i, x.feed(-1, 0, 0, 0, 0), 20 * i);
@@ -203,66 +152,66 @@ public final class PromisesTest {
     }
 
     private static void lawFaults() {
-        promise = 8;
-        faulty("x", -1000);
-        faulty(" n(a=1)", -1000);
-        faulty("n(a =1)", -1003);
-        faulty("n(a==1)", -1004);
-        faulty("n(a<1<2)", -1005);
-        faulty("n((a)=1)", -1004);
-        faulty("n(a=1))", -1006);
-        faulty("n(a=1)&(b=1)", -1006);
-        faulty("n(a=1&)", -1006);
-        faulty("n(a=1|)", -1006);
-        faulty("n(!)", -1003);
-        faulty("n()", -1002);
-        faulty("n([])", -1003);
-        faulty("n([a=1])", -1004);
-        faulty("n(-1=1)", -1002);
-        faulty("n(1+=1)", -1004);
-        faulty("r(1=1)", -1001);
-        faulty("n1(1=1)", -1001);
-        faulty("s1[2](1=1)", -1002);
-        faulty("r!1(1=1)", -1001);
-        faulty("r1(1=1);;", -1008);
-        faulty("r1(1=1),", -1007);
-        faulty("r12345(1=1)", 1);
-        faulty("r00001(1=1)", 1);
-        faulty("r123456(1=1)", -2006);
-        faulty("r1(000000=1)", -2008);
-        faulty("r12345a(1=1)", -1006);
+        promise(8);
+        read("x", -1000);
+        read(" n(a=1)", -1000);
+        read("n(a =1)", -1003);
+        read("n(a==1)", -1004);
+        read("n(a<1<2)", -1005);
+        read("n((a)=1)", -1004);
+        read("n(a=1))", -1006);
+        read("n(a=1)&(b=1)", -1006);
+        read("n(a=1&)", -1006);
+        read("n(a=1|)", -1006);
+        read("n(!)", -1003);
+        read("n()", -1002);
+        read("n([])", -1003);
+        read("n([a=1])", -1004);
+        read("n(-1=1)", -1002);
+        read("n(1+=1)", -1004);
+        read("r(1=1)", -1001);
+        read("n1(1=1)", -1001);
+        read("s1[2](1=1)", -1002);
+        read("r!1(1=1)", -1001);
+        read("r1(1=1);;", -1008);
+        read("r1(1=1),", -1007);
+        read("r12345(1=1)", 1);
+        read("r00001(1=1)", 1);
+        read("r123456(1=1)", -2006);
+        read("r1(000000=1)", -2008);
+        read("r12345a(1=1)", -1006);
         for (char c : "lnoqrsuA{~\u00e9\u0000".toCharArray()) {
-            faulty("r" + c + "(1=1)", -1001);
+            read("r" + c + "(1=1)", -1001);
         }
         for (char c : "abcdefghijkmptvwxyz".toCharArray()) {
-            faulty("n(" + c + "=1)", 1);
-            faulty("r" + c + "(" + c + "=1)", 1);
-            faulty("s" + c + "(" + c + "=1)", 1);
+            read("n(" + c + "=1)", 1);
+            read("r" + c + "(" + c + "=1)", 1);
+            read("s" + c + "(" + c + "=1)", 1);
         }
-        faulty("n((((((a=1))))))", 1);
-        faulty("n(((((((a=1)))))))", -5007);
-        faulty("n((((([a]=1)))))", 1);
-        faulty("n(((((([a]=1))))))", -5007);
-        faulty("n((((((!a=1))))))", -5007);
-        faulty("n(!!!!!a=1)", 1);
-        faulty("n(!!!!!!a=1)", -5007);
-        faulty("n(!a=1&!a=1&!a=1&!a=1&!a=1&!a=1&!a=1)", 1);
-        faulty("n(!!!!(a=1)&!!!!![a]=1)", -5017);
-        faulty("s[[[[[[1]]]]]](1=1)", 1);
-        faulty("s1+[[[[[[[1]]]]]]](1=1)", -5009);
-        faulty("n(a(((((((", -1003);
+        read("n((((((a=1))))))", 1);
+        read("n(((((((a=1)))))))", -5007);
+        read("n((((([a]=1)))))", 1);
+        read("n(((((([a]=1))))))", -5007);
+        read("n((((((!a=1))))))", -5007);
+        read("n(!!!!!a=1)", 1);
+        read("n(!!!!!!a=1)", -5007);
+        read("n(!a=1&!a=1&!a=1&!a=1&!a=1&!a=1&!a=1)", 1);
+        read("n(!!!!(a=1)&!!!!![a]=1)", -5017);
+        read("s[[[[[[1]]]]]](1=1)", 1);
+        read("s1+[[[[[[[1]]]]]]](1=1)", -5009);
+        read("n(a(((((((", -1003);
         String fourteen = "n(a=2);".repeat(13) + "n(a=2)";
-        faulty(fourteen, 14);
-        faulty(fourteen + ";", -1098);
-        faulty(fourteen + ";n(a=2)", -4098);
-        faulty(fourteen + ";s", -4098);
-        faulty(fourteen + ";q", -1098);
-        faulty("n(" + "1".repeat(5) + "+1".repeat(95) + "=1", -1199);
-        faulty("n(" + "1".repeat(4) + "+1".repeat(95) + "=1)", 1);
+        read(fourteen, 14);
+        read(fourteen + ";", -1098);
+        read(fourteen + ";n(a=2)", -4098);
+        read(fourteen + ";s", -4098);
+        read(fourteen + ";q", -1098);
+        read("n(" + "1".repeat(5) + "+1".repeat(95) + "=1", -1199);
+        read("n(" + "1".repeat(4) + "+1".repeat(95) + "=1)", 1);
     }
 
     private static void lawInPlace() {
-        promise = 8;
+        promise(8);
         OwnHurt x = court(2, 4, 3, "n(a=1&b=1);" + ALL_SAY);
         x.ask(0, 0);
         due("law(0)", x.law(0), -1);
@@ -306,7 +255,7 @@ public final class PromisesTest {
     }
 
     private static void lawReckons() {
-        promise = 8;
+        promise(8);
         due("from the left", reckoned("10-3-2"), 5);
         due("terms first", reckoned("2+3*4"), 14);
         due("factors from the left", reckoned("7/2*2%4"), 2);
@@ -357,7 +306,7 @@ public final class PromisesTest {
     }
 
     private static void would() {
-        promise = 9;
+        promise(9);
         OwnHurt x = court(2, 5, 9, "r1-v(x=1);r0(y=8);r7-y(z=5&y<7);r0-1(y<9);r200(1=1)");
         due("fact 0", x.would(0, 0, 1), 1);
         due("fact 1 false", x.would(0, 1, 0), 1);
@@ -384,7 +333,7 @@ public final class PromisesTest {
     }
 
     private static void ask() {
-        promise = 10;
+        promise(10);
         OwnHurt x = court(3, 5, 9, "r1(v=1&x<2)");
         x.truth(5);
         due("it says", x.ask(0, 0), 1);
@@ -415,7 +364,7 @@ public final class PromisesTest {
     }
 
     private static void half() {
-        promise = 11;
+        promise(11);
         OwnHurt x = court(3, 5, 9, "r1(v=1&x<2)");
         x.harm(0, 1, 1, 4);
         x.truth(2);
@@ -445,7 +394,7 @@ public final class PromisesTest {
     }
 
     private static void back() {
-        promise = 12;
+        promise(12);
         OwnHurt x = court(2, 5, 9, "r1(v=1)");
         due("an empty book", x.back(), false);
         x.truth(1);
@@ -461,7 +410,7 @@ public final class PromisesTest {
     }
 
     private static void anew() {
-        promise = 13;
+        promise(13);
         OwnHurt x = court(2, 5, 9, "r1(v=1)");
         due("anew()", x.anew(), 0);
         x.ask(0, 0);
@@ -475,7 +424,7 @@ public final class PromisesTest {
     }
 
     private static void left() {
-        promise = 14;
+        promise(14);
         OwnHurt x = new OwnHurt();
         x.facts(10);
         tell(x, "n(!a=1);n(!j=1);n(e=0)");
@@ -491,7 +440,7 @@ public final class PromisesTest {
     }
 
     private static void isLeft() {
-        promise = 15;
+        promise(15);
         OwnHurt x = new OwnHurt();
         x.facts(8);
         tell(x, "n(a=h)");
@@ -506,7 +455,7 @@ public final class PromisesTest {
     }
 
     private static void proved() {
-        promise = 16;
+        promise(16);
         OwnHurt x = new OwnHurt();
         x.facts(3);
         tell(x, "n(a=0);n(b=1)");
@@ -520,7 +469,7 @@ public final class PromisesTest {
     }
 
     private static void tells() {
-        promise = 17;
+        promise(17);
         OwnHurt x = court(3, 5, 9, "n(a=1&b=1);r1(v=1&x=0|x=1)");
         due("true", x.tells(0, 0, 1), 2);
         due("false, though it would not say it", x.tells(0, 0, 0), 4);
@@ -537,7 +486,7 @@ public final class PromisesTest {
     }
 
     private static void paid() {
-        promise = 18;
+        promise(18);
         OwnHurt x = court(2, 5, 9, ALL_SAY);
         x.person(3);
         x.ask(0, 0);
@@ -550,7 +499,7 @@ public final class PromisesTest {
     }
 
     private static void sentence() {
-        promise = 19;
+        promise(19);
         OwnHurt x = court(4, 5, 9, "n(b=0);n(c=1);s1000*a+200*b+c*300+d*500+m*20+p*3+t(1=1);r1(x=3)");
         x.person(8);
         due("proved true, and false", x.sentence(0), 240);
@@ -568,7 +517,7 @@ public final class PromisesTest {
     }
 
     private static void open() {
-        promise = 20;
+        promise(20);
         OwnHurt x = court(4, 5, 9, "r1(x=0&v=1|x=1&v=0|x=2)");
         due("open()", x.open(), 7);
         x.knows(0, 13);
@@ -585,7 +534,7 @@ public final class PromisesTest {
     }
 
     private static void fewest() {
-        promise = 21;
+        promise(21);
         OwnHurt x = court(4, 5, 9, "n(!d=a);" + ALL_SAY);
         x.person(0);
         x.knows(1, 1);
@@ -613,22 +562,22 @@ public final class PromisesTest {
     }
 
     private static void fewestOfTen() {
-        promise = 21;
+        promise(21);
         OwnHurt x = court(10, 5, 9, "n(!a=[b+c+d+e+f+g+h+i+j]%2);" + ALL_SAY);
         x.knows(0, 1022);
         due("all nine", x.fewest(0, 0), 9);
         due("the least fact", x.fewest(0, 1), 1);
-        promise = 22;
+        promise(22);
         due("all nine ahead", x.ahead(0, 0) * 10000 + x.ahead(0, 1), 91022);
-        promise = 21;
+        promise(21);
         x.ask(0, 4);
         due("eight more", x.fewest(0, 0), 8);
         tell(x, "n(i=0&j=0&!a=b|i=1&j=0&!a=c|i=0&j=1&!a=d|i=1&j=1&!a=e);" + ALL_SAY);
         due("the chosen one", x.fewest(0, 0), 3);
         due("who chooses comes first", x.fewest(0, 1), 8);
-        promise = 22;
+        promise(22);
         due("all that matter", x.ahead(0, 1), 798);
-        promise = 23;
+        promise(23);
         due("none are alike", x.alike(0, 0), -2);
         x.knows(0, 1022 - 16);
         due("none prove it", x.fewest(0, 0), -2);
@@ -637,7 +586,7 @@ public final class PromisesTest {
     }
 
     private static void ahead() {
-        promise = 22;
+        promise(22);
         OwnHurt x = court(4, 5, 9, "n(!a=b);n(!c=d);" + ALL_SAY);
         due("of like ones the least", x.ahead(1, 1), 1);
         due("how many", x.ahead(1, 0), 1);
@@ -664,7 +613,7 @@ public final class PromisesTest {
     }
 
     private static void alike() {
-        promise = 23;
+        promise(23);
         OwnHurt x = court(3, 5, 9, "n(a+b+c<2);" + ALL_SAY);
         x.knows(0, 1);
         due("the least", x.alike(1, 0), 3);
@@ -683,7 +632,7 @@ public final class PromisesTest {
     }
 
     private static void lesser() {
-        promise = 24;
+        promise(24);
         OwnHurt x = court(4, 5, 9, "r1(!x=3)");
         x.truth(1);
         x.harm(0, 1, 0, 4);
@@ -710,7 +659,7 @@ public final class PromisesTest {
     }
 
     private static void best() {
-        promise = 25;
+        promise(25);
         OwnHurt x = court(3, 5, 9, "r1(x<2);s100-40*a-b*30(1=1)");
         x.truth(3);
         due("all is said", x.best(0, 0), 18 + 30);
@@ -736,15 +685,8 @@ public final class PromisesTest {
         due("nothing is changed", x.left(-1) + x.count(4) + x.paid(0), 6);
     }
 
-    private static void judged(OwnHurt x, int row, int why, int worlds, int... bytes) {
-        for (int what = 0; what < 3; what++) {
-            feedBytes(x, bytes);
-            due("judge what " + what, x.judge(bytes.length / 3, what), new int[] {row, why, worlds}[what]);
-        }
-    }
-
     private static void judge() {
-        promise = 26;
+        promise(26);
         OwnHurt x = court(3, 5, 9, "n(a=1&b=1);r1(v=1)");
         x.truth(4);
         x.ask(0, 2);
@@ -785,7 +727,7 @@ public final class PromisesTest {
     }
 
     private static void seed() {
-        promise = 27;
+        promise(27);
         OwnHurt x = new OwnHurt();
         due("seed(65535)", x.seed(65535), true);
         due("count(5)", x.count(5), 65535);
@@ -800,7 +742,7 @@ public final class PromisesTest {
     }
 
     private static void draw() {
-        promise = 28;
+        promise(28);
         OwnHurt x = new OwnHurt();
         due("no people", x.draw(1), -1);
         x.facts(3);
@@ -826,21 +768,8 @@ public final class PromisesTest {
         due("X does not go on", x.count(5), at);
     }
 
-    private static void feedNumbers(OwnHurt x, int... numbers) {
-        int[] bytes = new int[4 * numbers.length];
-        for (int i = 0; i < bytes.length; i++) {
-            bytes[i] = numbers[i / 4] >> 24 - i % 4 * 8 & 255;
-        }
-        feedBytes(x, bytes);
-    }
-
-    private static int checked(OwnHurt x, int... numbers) {
-        feedNumbers(x, numbers);
-        return x.check(numbers.length / 3);
-    }
-
     private static void check() {
-        promise = 29;
+        promise(29);
         OwnHurt x = court(3, 5, 9, "r1(v=1&x<2)");
         x.truth(1);
         due("an empty book", checked(x), -1);
@@ -868,7 +797,7 @@ public final class PromisesTest {
     }
 
     private static void count() {
-        promise = 30;
+        promise(30);
         OwnHurt x = court(3, 5, 9, "n(a=0);n(b=1);" + ALL_SAY);
         x.truth(5);
         x.ask(0, 2);
@@ -892,7 +821,7 @@ public final class PromisesTest {
 
     /** No call may throw, whatever it is given. */
     private static void extremes() {
-        promise = 0;
+        section("any call");
         int[] numbers = {Integer.MIN_VALUE, -1000000, -3, -1, 0, 1, 2, 9, 10, 40, 200, 1 << 30, Integer.MAX_VALUE};
         for (int a : numbers) {
             for (int b : numbers) {

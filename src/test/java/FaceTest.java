@@ -23,6 +23,7 @@ public final class FaceTest {
         "boolean seed(int)", "int draw(int)", "int check(int)", "int count(int)",
     };
     private static final Path SOURCE = Path.of("src/main/java/OwnHurt.java");
+    private static final Path DOCUMENT = Path.of("../shared/DOC.md");
     private static final int MOST_CLASSES = 12;
     private static final int MOST_FIELDS = 20;
     private static final int MOST_LINES = 60;
@@ -38,11 +39,30 @@ public final class FaceTest {
     }
 
     public static void main(String[] args) throws Exception {
+        if (Files.exists(DOCUMENT)) {
+            document(Files.readString(DOCUMENT));
+        }
         face();
         inside();
         source(Files.readAllLines(SOURCE));
         System.out.println(wrong == 0 ? "the face and the rules hold" : wrong + " rules are broken");
         System.exit(wrong == 0 ? 0 : 1);
+    }
+
+    /** The list above is the document's, and so is the constant. */
+    private static void document(String text) {
+        int from = text.indexOf("public final class OwnHurt {");
+        int to = text.indexOf("```", Math.max(0, from));
+        must(from >= 0 && to > from, "the document shows a face");
+        String shown = text.substring(Math.max(0, from), Math.max(from, to));
+        Matcher method = Pattern.compile("public (int|boolean) (\\w+)\\((.*?)\\);").matcher(shown);
+        Set<String> face = new TreeSet<>();
+        while (method.find()) {
+            face.add(method.group(1) + " " + method.group(2) + "(" + method.group(3).replaceAll("(\\w+) \\w+", "$1") + ")");
+        }
+        must(face.equals(new TreeSet<>(List.of(FACE))), "the document's face is " + face);
+        must(shown.contains("public static final int NONE = " + OwnHurt.NONE + ";"), "NONE is the document's");
+        must(shown.lines().filter(line -> line.contains("public ")).count() == FACE.length + 3L, "no more is shown");
     }
 
     private static String described(Method m) {

@@ -48,6 +48,14 @@ abstract class TestCourt {
         due(call, got ? 1 : 0, want ? 1 : 0);
     }
 
+    static void due(String call, Object got, Object want) {
+        checks++;
+        if (!got.equals(want)) {
+            wrong++;
+            System.out.println(where + " " + call + " answered " + got + ", due is " + want);
+        }
+    }
+
     static void end() {
         System.out.println(checks + " checks, " + wrong + " wrong");
         System.exit(wrong == 0 ? 0 : 1);
